@@ -897,7 +897,6 @@ public final class SnowCanton {
             return true;
         }
 
-
         private int valueTold() {
             if (isWord("hat")) {
                 return Rule.HAT;
@@ -1021,6 +1020,12 @@ public final class SnowCanton {
 
         int waterOf(int owner) {
             return owner >= NONE && owner < MOST_PEOPLE ? all[WATER + 1 + owner] : 0;
+        }
+
+        private void addWater(int owner, int much) {
+            if (owner >= NONE && owner < MOST_PEOPLE) {
+                all[WATER + 1 + owner] += much;
+            }
         }
 
         void place(int person, int cell) {
@@ -1210,7 +1215,7 @@ public final class SnowCanton {
                 int less = Math.min(much, flakesOn(cell));
                 if (less > 0) {
                     if (canton.reachesSea(cell)) {
-                        all[WATER + 1 + all[OWNERS + cell]] += less;
+                        addWater(all[OWNERS + cell], less);
                         sum += less;
                     }
                     lessen(cell, less);

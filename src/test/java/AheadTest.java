@@ -173,6 +173,8 @@ final class AheadTest {
         Check.is("to nobody", -1, () -> y.heir(0, 24));
         SnowCanton z = Check.told("canton 5 1;man 2 2;man 1 1;man 3 1;fall 0 1 5;fall 0 3 6;first hat;");
         Check.is("who has most more", 2, () -> z.heir(0, 1));
+        SnowCanton one = Check.told("canton 3 1;man 1 0;man 0 1;fall 0 1 1;");
+        Check.is("a single flake is more", 1, () -> one.heir(0, 1));
     }
 
     private static void nothingChanges() {

@@ -74,6 +74,7 @@ final class GameTest {
         Check.is("what 3", Check.NO_SUCH, () -> x.winter(7, 0, 3));
         Check.is("what -1", Check.NO_SUCH, () -> x.winter(7, 0, -1));
         Check.is("what is ahead", Check.NO_SUCH, () -> x.winter(7, 61, 3));
+        Check.is("60 is not refused", 1, () -> x.winter(7, 60, 0) > 0 ? 1 : 0);
         Check.is("61", Check.ILLEGAL, () -> x.winter(7, 61, 0));
         Check.is("-1", Check.ILLEGAL, () -> x.winter(7, -1, 2));
         Check.is("nothing changes", 0, () -> x.count(4));
@@ -113,6 +114,9 @@ final class GameTest {
         Check.is("from now on: nobody's", 1, () -> x.winter(0, 0, 1));
         Check.is("from now on: who", 1, () -> x.winter(0, 0, 2));
         Check.is("an hour: flakes", 65, () -> x.winter(0, 1, 0));
+        SnowCanton y = Check.told("canton 2 2;man 3 0;man 0 0;man 1 0;fall 0 0 1;fall 0 1 1;");
+        Check.is("hour", 1, () -> y.hours(1));
+        Check.is("a single flake is the most, of like ones the least", 1, () -> y.winter(0, 0, 2));
     }
 
     private static void image() {

@@ -198,6 +198,16 @@ final class TextTest {
         Check.fault("first and;", 3, 6);
         Check.fault("first man;", 3, 6);
         Check.fault("first 1 and or 2;", 3, 12);
+        Check.fault("first 1 or foo;", 3, 11);
+        Check.fault("first 1 and foo;", 3, 12);
+        Check.fault("first 1<foo;", 3, 8);
+        Check.fault("first 1+foo;", 3, 8);
+        Check.fault("first 1*foo;", 3, 8);
+        Check.fault("first not foo;", 3, 10);
+        Check.fault("first (foo);", 3, 7);
+        Check.fault("first a;", 3, 6);
+        Check.fault("first z;", 3, 6);
+        Check.fault("first canton;", 3, 6);
         Check.fault("first 1 foo;", 1, 8);
         Check.fault("first 1 hat;", 1, 8);
         Check.fault("first not;", 1, 9);
@@ -267,6 +277,19 @@ final class TextTest {
         worth("((2+3)*(4-1))", 15);
         worth("1+(2*(3+(4*5)))", 47);
         worth("0005", 5);
+        deepest();
+    }
+
+    /** Five operands stand open in each of six EXPRs within one another. */
+    private static void deepest() {
+        String expr = "hat";
+        for (int i = 0; i < 5; i++) {
+            expr = "(0 or 1 and 0<0+1*" + expr + ")";
+        }
+        SnowCanton x = Check.told("man 5 0;man 5 1;first 0 or 1 and 0<0+1*" + expr + ";");
+        Check.is("the deepest rule", 1, () -> x.cell(5, 4));
+        SnowCanton y = Check.told("man 5 0;man 5 1;first 0 or 1 and 0<0+1*" + expr.replace("hat", "far") + ";");
+        Check.is("the deepest rule, of like ones", 0, () -> y.cell(5, 4));
     }
 
     private static void values() {
@@ -280,6 +303,10 @@ final class TextTest {
         Check.is("tall of a roof", 0, () -> x.cell(1, 4));
         SnowCanton y = Check.told("canton 3 1;height 2 6;roof 0 2;man 2 2;first tall;");
         Check.is("tall of a man above it", 1, () -> y.cell(1, 4));
+        SnowCanton like = Check.told("canton 2 1;height 0 5;height 1 2;man 0 2;roof 1 2;first tall;");
+        Check.is("a roof is 3 taller: like ones", 0, () -> like.cell(0, 4));
+        SnowCanton taller = Check.told("canton 2 1;height 0 5;height 1 3;man 0 2;roof 1 2;first tall;");
+        Check.is("a roof is 3 taller: taller", 1, () -> taller.cell(0, 4));
         SnowCanton z = Check.told("canton 3 1;man 0 3;man 2 3;fall 0 2 9;fall 1 0 8;first 0-has;");
         Check.is("has: the first flakes", 1, () -> z.hours(1));
         Check.is("like ones: the least", 0, () -> z.cell(2, 2));
