@@ -5,7 +5,8 @@ import java.util.NoSuchElementException;
 public final class SnowCanton {
     public static final int NONE = -1;
 
-    private static final int MOST_CELLS = 25;
+    private static final int LONGEST_SIDE = 5;
+    private static final int MOST_CELLS = LONGEST_SIDE * LONGEST_SIDE;
     private static final int MOST_PEOPLE = 8;
     private static final int MOST_FALLS = 24;
     private static final int MOST_BYTES = 700;
@@ -379,9 +380,11 @@ public final class SnowCanton {
         }
 
         void setSize(int w, int h) {
-            wide = w;
-            high = h;
-            cells = w * h;
+            if (w >= 1 && w <= LONGEST_SIDE && h >= 1 && h <= LONGEST_SIDE) {
+                wide = w;
+                high = h;
+                cells = w * h;
+            }
         }
 
         void addPerson(int kind, int home, int size) {
@@ -635,12 +638,12 @@ public final class SnowCanton {
 
         private boolean readSize() {
             next();
-            if (!isNumber(1, 5)) {
+            if (!isNumber(1, LONGEST_SIDE)) {
                 return false;
             }
             int wide = number;
             next();
-            if (!isNumber(1, 5)) {
+            if (!isNumber(1, LONGEST_SIDE)) {
                 return false;
             }
             into.setSize(wide, number);

@@ -42,6 +42,10 @@ final class Check {
         System.out.println(what + ": answered " + got + ", due is " + due);
     }
 
+    static void is(String what, String due, String got) {
+        holds(what + ": is <" + got + ">, due is <" + due + ">", due.equals(got));
+    }
+
     static void holds(String what, boolean is) {
         asked++;
         if (!is) {
@@ -84,6 +88,58 @@ final class Check {
         is("canton of <" + text + ">", fault, () -> read(x, text));
         is("fault() of <" + text + ">", place, x::fault);
         is("count(13) after <" + text + ">", fault == 0 ? 0 : 1, () -> x.count(13));
+    }
+
+    /** All that the calls tell of an object without changing it: counts, the fault's place, cells, people. */
+    static String state(SnowCanton x) {
+        StringBuilder s = new StringBuilder();
+        for (int what = 0; what < 16; what++) {
+            s.append(x.count(what)).append(' ');
+        }
+        s.append(x.fault());
+        int cells = x.count(0) * x.count(1);
+        for (int cell = 0; cell < cells; cell++) {
+            s.append(" |");
+            for (int what = 0; what < 7; what++) {
+                s.append(' ').append(x.cell(cell, what));
+            }
+        }
+        int people = x.count(2);
+        for (int person = 0; person < people; person++) {
+            s.append(" *");
+            for (int what = 0; what < 8; what++) {
+                s.append(' ').append(x.person(person, what));
+            }
+        }
+        return s.toString();
+    }
+
+    /** Makes an object as a test needs it: an object lasts 512 calls, so each question gets a new one. */
+    interface Maker {
+        SnowCanton make();
+    }
+
+    interface Ask {
+        int of(SnowCanton x);
+    }
+
+    /** A call that leaves all as it was, whatever it answers. */
+    static void leaves(Maker maker, String what, int due, Ask ask) {
+        SnowCanton x = maker.make();
+        String before = state(x);
+        is(what, due, () -> ask.of(x));
+        String after = state(x);
+        holds(what + " leaves <" + before + ">, not <" + after + ">", before.equals(after));
+    }
+
+    /** A call that answers NONE, counts in one STATUS (0 to 2) and leaves all else as it was. */
+    static void refused(Maker maker, String what, int status, Ask ask) {
+        SnowCanton x = maker.make();
+        String[] due = state(x).split(" ");
+        due[13 + status] = String.valueOf(Integer.parseInt(due[13 + status]) + 1);
+        is(what, SnowCanton.NONE, () -> ask.of(x));
+        String after = state(x);
+        holds(what + " counts in STATUS " + status + " alone, not <" + after + ">", String.join(" ", due).equals(after));
     }
 
     static void end(String test) {

@@ -2,13 +2,15 @@ import java.util.Random;
 
 /** Random runs of calls on the class and on the model, which must answer alike; half of the texts are spoilt. */
 final class ModelTest {
-    private static final int RUNS = 3000;
-    private static final int CALLS = 120;
+    private static final int RUNS = 8000;
+    // What calls beyond the 512th answer is free; what follows this one takes at most 60.
+    private static final int LATEST_CALL = 450;
 
     private final Random random;
     private final SnowCanton x = new SnowCanton();
     private final Model m = new Model();
     private final int run;
+    private int calls = 0;
 
     private ModelTest(int run) {
         this.run = run;
@@ -29,7 +31,7 @@ final class ModelTest {
 
     private void play() {
         tell();
-        for (int i = 0; i < CALLS; i++) {
+        while (calls < LATEST_CALL) {
             if (below(40) == 0) {
                 tell();
             } else {
@@ -39,6 +41,7 @@ final class ModelTest {
     }
 
     private void both(String what, Check.Call due, Check.Call got) {
+        calls++;
         Check.is("run " + run + ": " + what, Check.of(due), got);
     }
 
@@ -177,6 +180,7 @@ final class ModelTest {
             }
             case 20: {
                 if (below(3) == 0) {
+                    calls++;
                     m.forget();
                     x.forget();
                 }
@@ -186,6 +190,7 @@ final class ModelTest {
             case 21: both("game" + with, () -> m.game(p, q, c, what), () -> x.game(p, q, c, what)); break;
             case 22: both("winter" + with, () -> m.winter(seed, h, what), () -> x.winter(seed, h, what)); break;
             case 23: {
+                calls++;
                 m.image();
                 x.image();
                 break;
@@ -207,6 +212,7 @@ final class ModelTest {
                 this.p = below(4) == 0 ? -1 : p;
                 return;
             }
+            calls++;
             m.image();
             x.image();
             m.hours(in);
