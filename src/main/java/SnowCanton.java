@@ -387,6 +387,12 @@ public final class SnowCanton {
             }
         }
 
+        void setHeight(int cell, int height) {
+            if (hasCell(cell)) {
+                heights[cell] = height;
+            }
+        }
+
         void addPerson(int kind, int home, int size) {
             if (people < MOST_PEOPLE) {
                 kinds[people] = kind;
@@ -692,7 +698,7 @@ public final class SnowCanton {
             if (!isNumber(0, 9)) {
                 return false;
             }
-            into.heights[where] = number;
+            into.setHeight(where, number);
             next();
             return passSign(';');
         }
@@ -1098,20 +1104,21 @@ public final class SnowCanton {
             return best;
         }
 
-        private boolean touches(int person, int cell) {
+        /** Whether one who is there touches what is so far from where he stands. */
+        private boolean reaches(int person, int far) {
             int reach = all[HATS + person];
             if (canton.kinds[person] == PLOUGH) {
                 reach = 0;
             } else if (canton.kinds[person] == CHILD && all[HOUR] % 2 == 0) {
                 reach++;
             }
-            return person != all[ABSENT] && canton.far(all[PLACES + person], cell) <= reach;
+            return person != all[ABSENT] && far <= reach;
         }
 
         int touching(int cell) {
             int bits = 0;
             for (int person = 0; person < canton.people; person++) {
-                if (touches(person, cell)) {
+                if (reaches(person, canton.far(all[PLACES + person], cell))) {
                     bits |= 1 << person;
                 }
             }
@@ -1124,10 +1131,11 @@ public final class SnowCanton {
             int best = NONE;
             int most = 0;
             for (int person = 0; person < canton.people; person++) {
-                if (touches(person, cell)) {
-                    int worth = -canton.far(all[PLACES + person], cell);
+                int far = canton.far(all[PLACES + person], cell);
+                if (reaches(person, far)) {
+                    int worth = -far;
                     if (rule.isTold()) {
-                        tellValues(rule, person, cell);
+                        tellValues(rule, person, far);
                         worth = rule.worth();
                     }
                     if (best == NONE || worth > most) {
@@ -1139,11 +1147,11 @@ public final class SnowCanton {
             return best;
         }
 
-        private void tellValues(Rule rule, int person, int cell) {
+        private void tellValues(Rule rule, int person, int far) {
             int kind = canton.kinds[person];
             int place = all[PLACES + person];
             rule.setValue(Rule.HAT, all[HATS + person]);
-            rule.setValue(Rule.FAR, canton.far(place, cell));
+            rule.setValue(Rule.FAR, far);
             rule.setValue(Rule.KIND, kind);
             rule.setValue(Rule.HAS, held(person));
             rule.setValue(Rule.HOUR, all[HOUR] % 24);
